@@ -1432,17 +1432,35 @@ public final class EvenRota {
         /** Who served a turn on a day ahead of the turn's, too few days ago for its kind. */
         private int restingFor(int turn) {
             int mask = 0;
-            int day = calendar.dayOf[turn];
-            int kind = calendar.kindOf[turn];
-            int earliest = calendar.dayFirst[Math.max(0, day - house.longestRest)];
             int today = dayStart(turn);
-            for (int other = earliest; other < today; other++) {
-                int asked = house.rest[calendar.kindOf[other] * MOST_KINDS + kind];
-                if (servedBy[other] != NONE && day - calendar.dayOf[other] <= asked) {
+            for (int other = restStart(turn); other < today; other++) {
+                if (servedBy[other] != NONE && asksRest(other, turn)) {
                     mask |= 1 << servedBy[other];
                 }
             }
             return mask;
+        }
+
+        /** The same of one person alone, for what is asked very often. */
+        private boolean isResting(int person, int turn) {
+            int today = dayStart(turn);
+            for (int other = restStart(turn); other < today; other++) {
+                if (servedBy[other] == person && asksRest(other, turn)) {
+                    return true;
+                }
+            }
+            return false;
+        }
+
+        /** The first turn after which a rest could still be asked. */
+        private int restStart(int turn) {
+            int day = calendar.dayOf[turn] - house.longestRest;
+            return calendar.dayFirst[day > 0 ? day : 0];
+        }
+
+        private boolean asksRest(int turn, int later) {
+            int asked = house.rest[calendar.kindOf[turn] * MOST_KINDS + calendar.kindOf[later]];
+            return calendar.dayOf[later] - calendar.dayOf[turn] <= asked;
         }
 
         private int apartFrom(int mask) {
@@ -1474,7 +1492,7 @@ public final class EvenRota {
             if ((others & bit) != 0) {
                 return 3;
             }
-            if ((restingFor(turn) & bit) != 0) {
+            if (isResting(server, turn)) {
                 return 4;
             }
             if ((house.apart[server] & others) != 0) {
@@ -2010,12 +2028,10 @@ public final class EvenRota {
 
         /** Who can't serve the later turn when the person serves the one ahead of it. */
         private int barredBehind(int turn, int later, int person) {
-            int days = calendar.dayOf[later] - calendar.dayOf[turn];
-            if (days == 0) {
+            if (calendar.dayOf[turn] == calendar.dayOf[later]) {
                 return (1 << person) | house.apart[person];
             }
-            int asked = house.rest[calendar.kindOf[turn] * MOST_KINDS + calendar.kindOf[later]];
-            return days <= asked ? 1 << person : 0;
+            return rota.asksRest(turn, later) ? 1 << person : 0;
         }
 
         private boolean isWithinBound() {
