@@ -6,6 +6,7 @@ public final class EvenRota {
 
     private static final int WHOLE = 720720;
     private static final int MOST_PERSONS = 16;
+    private static final int MOST_PARTS = 16;
     private static final int MOST_KINDS = 6;
     private static final int MOST_OTHERS = 60;
     private static final int MOST_TURNS = 200;
@@ -231,7 +232,7 @@ public final class EvenRota {
 
     public int round(int kind) {
         int names = readRow();
-        if (names == NONE || !isKind(kind)) {
+        if (names < 1 || !isKind(kind)) {
             return NONE;
         }
         int count = calendar.countOf(kind);
@@ -243,7 +244,7 @@ public final class EvenRota {
 
     public int block(int kind) {
         int names = readRow();
-        if (names == NONE || !isKind(kind)) {
+        if (names < 1 || !isKind(kind)) {
             return NONE;
         }
         int count = calendar.countOf(kind);
@@ -945,7 +946,7 @@ public final class EvenRota {
             beginCounted(draft.persons, MOST_PERSONS);
             int name = newName();
             expectOwn(Tokens.PART);
-            int part = number(1, Math.min(9, MOST_PERSONS - draft.parts));
+            int part = number(1, Math.min(9, MOST_PARTS - draft.parts));
             expectOwn(Tokens.FROM);
             int from = number(0, MOST_DAYS - 1);
             expectOwn(Tokens.TO);

@@ -344,6 +344,10 @@ public final class PromiseTest {
         }
         is("q", x.letter(false, 1, 0), 17);
         is("behind q", x.letter(false, 1, 1), 0);
+        is("house", Feeding.house(x, "person zz part 1 from 0 to 0;kind aza weighs 0;person a part 1 from 0 to 0;"), 0);
+        is("z", x.letter(false, 0, 0), 26);
+        is("z again", x.letter(false, 0, 1), 26);
+        is("behind zz", x.letter(false, 0, 2), 0);
         is("k 6", x.letter(false, 0, 6), -1);
         is("k -1", x.letter(true, 0, -1), -1);
         is("person 2", x.letter(false, 2, 0), -1);
@@ -742,6 +746,15 @@ public final class PromiseTest {
         is("open ones and like ones are no swaps", x.swaps(1), 0);
         promise = 27;
         is("all were gone over", x.ended(), 1);
+        make(26, "days 200;" + PEOPLE3 + KIND + "turn k on day > 197;never a k on day = 199;", 2);
+        lay(1, 0);
+        is("on the last days", x.swaps(1), 1);
+        servers("on the last days", 0, 1);
+        make(26, "days 6;" + PEOPLE3 + KIND + "kind m weighs 1;" + "turn k on day < 4;turn m on day > 3;rest k m 2;", 6);
+        lay(1, 2, 0, 1, 2, 1);
+        is("a rest that begins after a swap", x.first(), 5);
+        is("swaps mend it", x.swaps(1000) > 0, true);
+        is("lawful then", x.bars(), 0);
         make(26, "days 3;" + PEOPLE3 + KIND + DAILY + "never a k on day=0;", 3);
         lay(0, 1, 2);
         is("fewer bars", x.swaps(1), 1);
