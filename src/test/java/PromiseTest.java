@@ -149,6 +149,13 @@ public final class PromiseTest {
         is("all open", x.has(5), 4);
         is("no cut", x.cut(0), -1);
         is("no cut persons", x.cut(1), -1);
+        make(4, "days 3;" + KIND + many(60, DAILY), 180);
+        make(4, "days 100;" + PEOPLE3 + "kind m weighs 1;" + KIND + DAILY + "turn m on all;", 200);
+        is("the last of k", x.turn(199, 5), 99);
+        is("the last of m", x.turn(198, 5), 99);
+        is("all of k", round(1, "a b"), 100);
+        is("the last", x.turn(199, 2), 1);
+        is("level behind the last", x.level(2, 1, 100), -24024000);
         make(4, " \n days\n9 ;days 2;" + PEOPLE3 + KIND + "turn k on all ; \n", 2);
     }
 
@@ -318,6 +325,11 @@ public final class PromiseTest {
         fault("days 200;" + KIND + DAILY + "turn k on day = 7; ", 6, 58);
         fault("days 200;" + KIND + DAILY + "turn k on day = 7; x", 1, 58);
         fault("days 200;" + KIND + DAILY + "turn k on day = 7; days 199; ", 0, -1);
+        fault(many(900, ";"), 1, 0);
+        fault(KIND + "turn k on " + many(437, "1+"), 1, 900);
+        fault(KIND + "turn k on " + many(436, "1+") + "1<", 1, 900);
+        fault(KIND + "turn k on " + many(435, "1+") + "0>9;", 0, -1);
+        fault(many(900, " "), 0, -1);
         is("no such", x.fault(2), -1);
         is("no such", x.fault(-1), -1);
     }
@@ -746,10 +758,11 @@ public final class PromiseTest {
         is("open ones and like ones are no swaps", x.swaps(1), 0);
         promise = 27;
         is("all were gone over", x.ended(), 1);
-        make(26, "days 200;" + PEOPLE3 + KIND + "turn k on day > 197;never a k on day = 199;", 2);
-        lay(1, 0);
-        is("on the last days", x.swaps(1), 1);
-        servers("on the last days", 0, 1);
+        make(26, "days 200;" + PEOPLE3 + KIND + "kind m weighs 1;turn m on day < 5;turn k on day > 197;"
+            + "never a k on day = 199;", 7);
+        lay(-1, -1, -1, -1, -1, 1, 0);
+        is("on the last days, WORST stays as it is", x.swaps(1), 1);
+        servers("on the last days", -1, -1, -1, -1, -1, 0, 1);
         make(26, "days 6;" + PEOPLE3 + KIND + "kind m weighs 1;" + "turn k on day < 4;turn m on day > 3;rest k m 2;", 6);
         lay(1, 2, 0, 1, 2, 1);
         is("a rest that begins after a swap", x.first(), 5);
@@ -815,9 +828,38 @@ public final class PromiseTest {
         is("nobody else", x.ill(0, 0, 0, Long.MAX_VALUE), -2);
         String fours = "never b n on all;";
         String twos = "never b o on all;never c o on all;never d o on all;never b p on all;never c p on all;never d p on all;";
+        make(28, "days 1;" + PEOPLE3 + KIND + DAILY + DAILY + "apart a b;", 2);
+        lay(0, 0);
+        is("who is ill is apart from nobody that day", x.ill(0, 0, 0, Long.MAX_VALUE), 2);
+        servers("b and c", 1, 2);
+        behind2000();
         ways(twos + fours, 6, -3);
         ways(twos + fours + "never b m on all;", 6, -2);
         ways(twos, -3, -3);
+    }
+
+    /** f alone is due the last turn of k, b alone the first of the others: one way will do, the 2001st of 2500. */
+    private static void behind2000() {
+        StringBuilder text = new StringBuilder("days 10;");
+        for (int n = 0; n < 6; n++) {
+            text.append("person ").append((char) ('a' + n)).append(" part 1 from ").append(n == 1 ? 0 : 1);
+            text.append(" to ").append(n == 5 ? 9 : 8).append(';');
+        }
+        for (int n = 0; n < 6; n++) {
+            char kind = (char) ('k' + n);
+            text.append("kind ").append(kind).append(" weighs 1;turn ").append(kind).append(" on day=");
+            text.append(n == 0 ? 9 : 0).append(" or day=").append(n + 1).append(';');
+        }
+        text.append("never c o on all;never d o on all;never e o on all;never c p on all;never d p on all;never e p on all;");
+        make(28, text.toString(), 12);
+        for (int turn = 5; turn < 11; turn++) {
+            x.set(turn, 0);
+        }
+        is("the 2001st way is not tried", x.ill(0, 0, 9, 720720), -3);
+        for (int turn = 5; turn < 11; turn++) {
+            x.set(turn, turn == 5 ? 5 : 1);
+        }
+        is("but it would do", x.worst(0), 720720);
     }
 
     /**
