@@ -1576,8 +1576,8 @@ public final class EvenRota {
                 boolean hasOne = false;
                 boolean hasOther = false;
                 for (int turn = calendar.dayFirst[day]; turn < calendar.dayFirst[day + 1]; turn++) {
-                    hasOne |= servedBy[turn] == one;
-                    hasOther |= servedBy[turn] == other;
+                    hasOne = hasOne || servedBy[turn] == one;
+                    hasOther = hasOther || servedBy[turn] == other;
                 }
                 if (hasOne && hasOther) {
                     days++;
@@ -1925,8 +1925,6 @@ public final class EvenRota {
         private static final int MOST_WAYS = 2000;
         private static final int NO_WAY = -2;
         private static final int TOO_MANY_WAYS = -3;
-        private static final int FITS = 1;
-        private static final int FITS_NOT = 2;
 
         private final House house;
         private final Calendar calendar;
@@ -1937,8 +1935,10 @@ public final class EvenRota {
         private final int[] chosen = new int[MOST_ILL];
         /** Row by row: who is left for each of the turns once so many are chosen. */
         private final int[] left = new int[(MOST_ILL + 1) * MOST_ILL];
-        /** For each person and each set of the turns: whether the gaps are within the bound, 0 if not yet known. */
-        private final byte[] fits = new byte[MOST_PERSONS << MOST_ILL];
+        /** For each person, by a bit for each set of the turns: whether it is known how far the gaps are with it. */
+        private final long[] known = new long[MOST_PERSONS];
+        /** Likewise: whether they are within the bound. */
+        private final long[] fits = new long[MOST_PERSONS];
         private int count = 0;
         private int ways = 0;
         private long bound = 0;
@@ -1959,7 +1959,8 @@ public final class EvenRota {
             }
             bound = newBound;
             ways = 0;
-            Arrays.fill(fits, (byte) 0);
+            Arrays.fill(known, 0);
+            Arrays.fill(fits, 0);
             openTurns();
             for (int n = 0; n < count; n++) {
                 left[n] = rota.ableFor(turns[n]) & ~(1 << person);
@@ -2000,7 +2001,7 @@ public final class EvenRota {
         private boolean choose(int depth) {
             if (depth >= count || depth >= MOST_ILL) {
                 ways++;
-                return isWithinBound();
+                return doAllFit();
             }
             int candidates = left[depth * MOST_ILL + depth];
             for (int person = 0; person < house.persons && ways < MOST_WAYS; person++) {
@@ -2035,7 +2036,7 @@ public final class EvenRota {
             return rota.asksRest(turn, later) ? 1 << person : 0;
         }
 
-        private boolean isWithinBound() {
+        private boolean doAllFit() {
             for (int person = 0; person < house.persons; person++) {
                 int taken = 0;
                 for (int n = 0; n < count; n++) {
@@ -2051,19 +2052,20 @@ public final class EvenRota {
         }
 
         private boolean doesFit(int person, int taken) {
-            int at = (person << MOST_ILL) | taken;
-            if (fits[at] == 0) {
+            long bit = 1L << taken;
+            if ((known[person] & bit) == 0) {
                 for (int n = 0; n < count; n++) {
                     rota.countsFor[turns[n]] = ((taken >> n) & 1) != 0 ? person : NONE;
                 }
-                fits[at] = FITS;
+                known[person] |= bit;
+                fits[person] |= bit;
                 for (int kind = 0; kind < house.kinds; kind++) {
                     if (levels.gapOf(person, kind) > bound) {
-                        fits[at] = FITS_NOT;
+                        fits[person] &= ~bit;
                     }
                 }
             }
-            return fits[at] == FITS;
+            return (fits[person] & bit) != 0;
         }
     }
 }
