@@ -759,7 +759,7 @@ public final class PromiseTest {
         promise = 27;
         is("all were gone over", x.ended(), 1);
         make(26, "days 200;" + PEOPLE3 + KIND + "kind m weighs 1;turn m on day < 5;turn k on day > 197;"
-            + "never a k on day = 199;", 7);
+            + "never a k on day = 199;rest m m 30;", 7);
         lay(-1, -1, -1, -1, -1, 1, 0);
         is("on the last days, WORST stays as it is", x.swaps(1), 1);
         servers("on the last days", -1, -1, -1, -1, -1, 0, 1);
@@ -828,10 +828,10 @@ public final class PromiseTest {
         is("nobody else", x.ill(0, 0, 0, Long.MAX_VALUE), -2);
         String fours = "never b n on all;";
         String twos = "never b o on all;never c o on all;never d o on all;never b p on all;never c p on all;never d p on all;";
-        make(28, "days 1;" + PEOPLE3 + KIND + DAILY + DAILY + "apart a b;", 2);
+        make(28, "days 1;" + PEOPLE3 + KIND + "kind m weighs 1;" + DAILY + "turn m on all;apart a b;never c m on all;", 2);
         lay(0, 0);
         is("who is ill is apart from nobody that day", x.ill(0, 0, 0, Long.MAX_VALUE), 2);
-        servers("b and c", 1, 2);
+        servers("c, so that b can have the m", 2, 1);
         behind2000();
         ways(twos + fours, 6, -3);
         ways(twos + fours + "never b m on all;", 6, -2);
