@@ -306,7 +306,8 @@ public final class EvenRota {
     // ---- ill ones, reasons, trades
 
     public int ill(int person, int from, int to, long bound) {
-        if (!isPerson(person) || from < 0 || to < from || to >= house.days || bound < 0) {
+        // As in a person's from .. to, the days may lie behind the house's last one.
+        if (!isPerson(person) || from < 0 || to < from || to >= MOST_DAYS || bound < 0) {
             return NONE;
         }
         return illness.replace(person, from, to, bound);

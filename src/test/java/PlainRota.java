@@ -973,7 +973,7 @@ public final class PlainRota {
     }
 
     public int ill(int person, int from, int to, long bound) {
-        if (!isPerson(person) || from < 0 || to < from || to >= told.days || bound < 0) {
+        if (!isPerson(person) || from < 0 || to < from || to > 199 || bound < 0) {
             return -1;
         }
         List<Integer> these = new ArrayList<>();

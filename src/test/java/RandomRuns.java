@@ -349,7 +349,8 @@ public final class RandomRuns {
                 if (persons < 6) {
                     int from = oneIn(8) ? below(days + 2) - 1 : 0;
                     long bound = oneIn(3) ? 720720L * 100 : oneIn(9) ? -1 : 720720L + lots.nextInt(720720 * 2);
-                    call("ill", someOf(persons), from, from + below(days + 2) - 1, bound);
+                    int to = oneIn(8) ? 197 + below(5) : from + below(days + 2) - 1;
+                    call("ill", someOf(persons), from, to, bound);
                 }
             }
             case 14 -> {
