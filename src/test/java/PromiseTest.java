@@ -161,6 +161,7 @@ public final class PromiseTest {
 
     /** On how many of the days 0 to 27 a test holds. */
     private static void holds(String test, int days) {
+        x = new EvenRota();
         is(test, Feeding.house(x, KIND + "turn k on " + test + ";"), days);
     }
 
@@ -210,6 +211,7 @@ public final class PromiseTest {
     }
 
     private static void fault(String text, int fault, int place) {
+        x = new EvenRota();
         is("house of '" + text + "'", Feeding.house(x, text), fault == 0 ? x.has(3) : -1);
         is("fault of '" + text + "'", x.fault(0), fault);
         is("place in '" + text + "'", x.fault(1), place);

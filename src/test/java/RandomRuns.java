@@ -10,11 +10,14 @@ public final class RandomRuns {
     private static final Map<String, Method> ROTA = methods(EvenRota.class);
     private static final Map<String, Method> PLAIN = methods(PlainRota.class);
 
+    private static final int MOST_CALLS = 512;
+
     private final Random lots;
     private final EvenRota rota = new EvenRota();
     private final PlainRota plain = new PlainRota();
     private final List<String> log = new ArrayList<>();
     private boolean wrong = false;
+    private int calls = 0;
     private int persons = 0;
     private int kinds = 0;
     private int turns = 0;
@@ -34,7 +37,12 @@ public final class RandomRuns {
         return found;
     }
 
+    /** Once the object's calls are used up nothing is called any more. */
     private Object call(String name, Object... args) {
+        calls++;
+        if (calls > MOST_CALLS) {
+            return -1;
+        }
         try {
             Object got = ROTA.get(name).invoke(rota, args);
             Object want = PLAIN.get(name).invoke(plain, args);
@@ -52,6 +60,10 @@ public final class RandomRuns {
     }
 
     private void put(String text) {
+        calls += 2 + (text.length() + 19) / 20;
+        if (calls > MOST_CALLS) {
+            return;
+        }
         Feeding.put(rota, text);
         plain.tape = text;
         log.add("tape: " + text.replace("\n", "\\n"));
@@ -237,7 +249,7 @@ public final class RandomRuns {
 
     private int someOf(int many) {
         return oneIn(25) ? new int[] {-2, -1, many, many + 1, Integer.MAX_VALUE, Integer.MIN_VALUE}[below(6)]
-            : many == 0 ? below(2) - 1 : below(many);
+            : many <= 0 ? below(2) - 1 : below(many);
     }
 
     private int kindOrNone() {
@@ -261,6 +273,7 @@ public final class RandomRuns {
 
     private String picture() {
         int length = (Integer) call("image");
+        calls += Math.max(0, length);
         StringBuilder text = new StringBuilder();
         for (int k = 0; k < length; k++) {
             text.append((char) rota.octet(k));
@@ -287,7 +300,7 @@ public final class RandomRuns {
         for (int what = -1; what < 4; what++) {
             call("worst", what);
         }
-        for (int turn = 0; turn < turns; turn++) {
+        for (int turn = 0; turn < turns && turn < 30; turn++) {
             call("turn", turn, 2);
             call("turn", turn, 3);
             call("turn", turn, 4);
@@ -370,7 +383,7 @@ public final class RandomRuns {
         for (int n = 0; n < 8 && !wrong && turns == 0; n++) {
             takeHouse();
         }
-        for (int n = 0; n < 25 && !wrong; n++) {
+        for (int n = 0; n < 25 && !wrong && calls < MOST_CALLS; n++) {
             doSomething();
             for (int k = 0; k < 4; k++) {
                 askSomething();
@@ -384,7 +397,7 @@ public final class RandomRuns {
 
     public static void main(String[] args) {
         long from = args.length > 1 ? Long.parseLong(args[1]) : 1;
-        long to = args.length > 2 ? Long.parseLong(args[2]) : 600;
+        long to = args.length > 2 ? Long.parseLong(args[2]) : 1200;
         int failed = 0;
         for (long seed = from; seed <= to && failed < 3; seed++) {
             RandomRuns run = new RandomRuns(seed);
