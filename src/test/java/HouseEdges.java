@@ -25,6 +25,8 @@ public final class HouseEdges {
         Edges.is("no image", Edges.x.octet(0), -1);
         Edges.is("no bars", Edges.x.bars(), 0);
         Edges.is("lawful", Edges.x.first(), -1);
+        Edges.sentence("The constants: NONE = -1");
+        Edges.is("NONE", EvenRota.NONE, -1);
     }
 
     private static int feedBlanks() {
@@ -133,6 +135,14 @@ public final class HouseEdges {
         Edges.fault(1, ON + "day<1 and^1<day;");
         Edges.fault(1, Edges.KIND + "turn k on^1<day;");
         Edges.fault(1, ON + "not^1<day;");
+        for (char letter = 'a'; letter <= 'z'; letter++) {
+            Edges.fault(1, "person q" + letter + "^1 part 1 from 0 to 0;");
+            Edges.fault(1, "person a part 1 from 1 to 9^" + letter + ";");
+        }
+        for (char digit = '0'; digit <= '9'; digit++) {
+            Edges.fault(1, ON + "0<" + digit + "^and all;");
+            Edges.fault(1, ON + "all and^" + digit + "<1;");
+        }
         Edges.fault(1, "^personann part 1 from 0 to 0;");
         Edges.fault(1, "person ann part^1from 0 to 0;");
         Edges.house(ON + "1<day and day<9 and[day=3]or(day)=5;", 2);

@@ -397,6 +397,13 @@ public final class RotaEdges {
         Edges.house("days 3;" + TWO + Edges.dailyKinds(2) + "never b k on day=2;", 6);
         Edges.is("not k", Edges.x.even(0, WHOLE, WHOLE), -1);
         Edges.is("but l", Edges.x.even(1, WHOLE, WHOLE), 1);
+        for (char name = 'a'; name <= 'd'; name++) {
+            Edges.house(daily(3, Edges.people(4)) + "never " + name + " k on day=1;", 3);
+            Edges.is("not all but " + name, Edges.x.even(0, WHOLE, WHOLE), -1);
+            Edges.is("nor least", Edges.x.least(0), -1);
+        }
+        Edges.house(daily(3, Edges.people(4)), 3);
+        Edges.is("all four", Edges.x.even(0, WHOLE, WHOLE), 1);
         Edges.house("days 3;" + Edges.person('a', 1) + Edges.person('b', 1, 1, 1) + Edges.KIND + "turn k on day=1;turn k on day=1;", 2);
         Edges.is("on all days on which it is", Edges.x.even(0, WHOLE, WHOLE), 1);
         Edges.house("days 3;" + Edges.person('a', 1) + Edges.person('b', 1, 1, 199) + Edges.KIND + Edges.DAILY, 3);
