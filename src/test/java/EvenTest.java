@@ -85,9 +85,11 @@ public final class EvenTest {
         for (int ahead = 0; ahead <= WHOLE; ahead += unit) {
             for (int behind = 0; behind <= WHOLE; behind += unit) {
                 boolean can = canBe(0, days, parts, new int[parts.length], ahead, behind);
-                is("even " + ahead + " " + behind + " of " + text, rota.even(0, ahead, behind), can ? 1 : 0);
+                EvenRota other = new EvenRota();
+                Feeding.house(other, text);
+                is("even " + ahead + " " + behind + " of " + text, other.even(0, ahead, behind), can ? 1 : 0);
                 if (can) {
-                    checkLevels(rota, days, parts.length, ahead, behind);
+                    checkLevels(other, days, parts.length, ahead, behind);
                 }
             }
         }

@@ -274,6 +274,9 @@ public final class RandomRuns {
     private String picture() {
         int length = (Integer) call("image");
         calls += Math.max(0, length);
+        if (calls > MOST_CALLS) {
+            return "";
+        }
         StringBuilder text = new StringBuilder();
         for (int k = 0; k < length; k++) {
             text.append((char) rota.octet(k));
